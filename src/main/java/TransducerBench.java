@@ -358,7 +358,8 @@ public final class TransducerBench {
         }
 
         void addWord(Word other) {
-            int count = Math.min(other.length, letters.length - length);
+            int room = letters.length - length;
+            int count = other.length < room ? other.length : room;
             System.arraycopy(other.letters, 0, letters, length, count);
             length += count;
         }
@@ -369,8 +370,8 @@ public final class TransducerBench {
         }
 
         void become(Word other) {
-            clear();
-            addWord(other);
+            length = other.length < letters.length ? other.length : letters.length;
+            System.arraycopy(other.letters, 0, letters, 0, length);
         }
 
         int number() {
@@ -390,13 +391,20 @@ public final class TransducerBench {
         }
 
         boolean isAlike(Word other) {
-            return length == other.length && commonWith(other) == length;
+            if (length != other.length) {
+                return false;
+            }
+            for (int k = 0; k < length; k++) {
+                if (letters[k] != other.letters[k]) {
+                    return false;
+                }
+            }
+            return true;
         }
 
         int commonWith(Word other) {
-            int shorter = Math.min(length, other.length);
             int k = 0;
-            while (k < shorter && letters[k] == other.letters[k]) {
+            while (k < length && k < other.length && letters[k] == other.letters[k]) {
                 k++;
             }
             return k;
@@ -753,7 +761,7 @@ public final class TransducerBench {
 
         boolean differ(Machine one, Machine other, Word shown) {
             begin(one, other);
-            for (int g = 0; g < groups; g++) {
+            for (int g = 0; g < groups && g <= MOST; g++) {
                 if (shows(one, other, g)) {
                     spell(g, shown);
                     return true;
@@ -894,7 +902,7 @@ public final class TransducerBench {
         private int search(Machine one, Machine other) {
             int oneEnding = one.ending();
             int otherEnding = other.ending();
-            for (int i = 0; i < count; i++) {
+            for (int i = 0; i < count && i < MOST; i++) {
                 int left = pairs[i] >> MOST_STATES;
                 int right = pairs[i] & (1 << MOST_STATES) - 1;
                 boolean oneReads = (left & oneEnding) != 0;
@@ -1018,15 +1026,14 @@ public final class TransducerBench {
         }
 
         private void write(Machine machine) {
-            candidate.clear();
-            for (int q = 0; q < MOST_STATES; q++) {
-                now[q].clear();
-                if (holds(machine.beginning, q)) {
-                    now[q].offer(candidate);
-                }
-            }
+            begin(machine);
             for (int k = 0; k < word.length; k++) {
-                step(machine, word.letters[k]);
+                for (int a = 0; a < machine.arcs; a++) {
+                    if (machine.letter[a] == word.letters[k]) {
+                        offerAll(now[machine.from[a]], machine.word[a], behind[machine.to[a]]);
+                    }
+                }
+                turn();
             }
             total.clear();
             for (int q = 0; q < machine.states; q++) {
@@ -1036,18 +1043,24 @@ public final class TransducerBench {
             }
         }
 
-        private void step(Machine machine, int letter) {
+        private void begin(Machine machine) {
+            candidate.clear();
             for (int q = 0; q < MOST_STATES; q++) {
                 behind[q].clear();
-            }
-            for (int a = 0; a < machine.arcs; a++) {
-                if (machine.letter[a] == letter) {
-                    offerAll(now[machine.from[a]], machine.word[a], behind[machine.to[a]]);
+                now[q].clear();
+                if (holds(machine.beginning, q)) {
+                    now[q].offer(candidate);
                 }
             }
+        }
+
+        private void turn() {
             TwoLeast[] old = now;
             now = behind;
             behind = old;
+            for (int q = 0; q < MOST_STATES; q++) {
+                behind[q].clear();
+            }
         }
 
         private void offerAll(TwoLeast source, int label, TwoLeast goal) {
@@ -1225,7 +1238,7 @@ public final class TransducerBench {
                 made[q].clear();
             }
             place();
-            for (int s = 0; s < count; s++) {
+            for (int s = 0; s < count && s < MOST; s++) {
                 for (int letter = 1; letter <= INPUT_LETTERS; letter++) {
                     lead(machine, s, letter);
                     if (count > MOST) {
@@ -1502,7 +1515,7 @@ public final class TransducerBench {
             if (sets.count > 0) {
                 call(0);
             }
-            for (int q = 0; q < states; q++) {
+            for (int q = 0; q < states && q < Sets.MOST; q++) {
                 for (int k = 0; k < INPUT_LETTERS; k++) {
                     int next = sets.nexts[chosen[q] * INPUT_LETTERS + k];
                     if (next != NONE) {

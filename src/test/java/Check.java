@@ -1,6 +1,6 @@
 /** Counts the answers that are not as due, and prints them. */
 final class Check {
-    private int asked = 0;
+    private long asked = 0;
     private int wrong = 0;
 
     void due(String call, long got, long want) {

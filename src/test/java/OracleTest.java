@@ -29,7 +29,8 @@ final class OracleTest {
         System.out.println("functional 0: " + SEEN[0] + ", 1: " + SEEN[1] + "; readers 0: " + SEEN[2] + ", 1: " + SEEN[3]
                 + "; same 0: " + SEEN[4] + ", 1: " + SEEN[5] + "; sequential 0: " + SEEN[6] + ", 1: " + SEEN[7]
                 + ", 2 by TWINS: " + SEEN[8] + ", 2 by SETS: " + SEEN[9] + "; taken: " + SEEN[10]
-                + "; longest WITNESS: " + SEEN[11] + "; most STATES: " + SEEN[12]);
+                + "; longest WITNESS: " + SEEN[11] + "; most STATES: " + SEEN[12]
+                + "; most SETS: " + SEEN[13] + "; most pairs: " + SEEN[14]);
         CHECK.finish("OracleTest");
     }
 
@@ -60,13 +61,15 @@ final class OracleTest {
     // Machines
 
     private void make(int t) {
-        switch (pick(7)) {
+        switch (pick(9)) {
             case 0 -> makeAny(t, pick(7), pick(13), 3);
             case 1 -> makeByLetter(t, 1 + pick(6), pick(20));
             case 2 -> makeDeterministic(t, 1 + pick(6));
             case 3 -> makeByHeights(t, 2 + pick(5), 5 + pick(26), 1 + pick(3));
             case 4 -> makeGuess(t);
             case 5 -> makeChanged(t);
+            case 6 -> makeTokens(t);
+            case 7 -> makeCycles(t);
             default -> makeAny(t, 1 + pick(3), pick(6), 1 + pick(2));
         }
     }
@@ -174,6 +177,51 @@ final class OracleTest {
         }
     }
 
+    /** Tokens with WORDS of their own are moved about, at most one to a place; the one on the END's STATE is written. */
+    private void makeTokens(int t) {
+        newMachine(t, 6);
+        int places = 3 + pick(3);
+        int most = pick(3);
+        begins(t, 5, true);
+        ends(t, 0, word(1, 9));
+        for (int q = 0; q < places; q++) {
+            arc(t, 5, 3, q, most == 0 ? q + 1 : word(most, 3));
+        }
+        for (int letter = 1; letter <= 3; letter++) {
+            int[] goals = {0, 1, 2, 3, 4};
+            for (int i = places - 1; i > 0 && letter < 3; i--) {
+                int j = pick(3) == 0 ? i : pick(i + 1);
+                int goal = goals[i];
+                goals[i] = goals[j];
+                goals[j] = goal;
+            }
+            for (int q = 0; q < places && (letter < 3 || places == 3); q++) {
+                if (pick(12) > 0) {
+                    arc(t, q, letter, goals[q], 0);
+                }
+            }
+        }
+    }
+
+    /** Two rounds of other lengths: what they write is told apart late. */
+    private void makeCycles(int t) {
+        newMachine(t, 6);
+        int first = 1 + pick(5);
+        int letter = 1 + pick(3);
+        int label = word(2, 2);
+        begins(t, 0, true);
+        begins(t, first, true);
+        for (int q = 0; q < 6; q++) {
+            int to = q == first - 1 ? 0 : q == 5 ? first : q + 1;
+            arc(t, q, letter, to, label);
+            if (pick(6) == 0) {
+                arc(t, q, 1 + pick(3), pick(6), word(3, 2));
+            }
+        }
+        ends(t, first - 1, word(2, 2));
+        ends(t, 5, word(2, 2));
+    }
+
     private void makeChanged(int t) {
         due("copy", bit(bench.copy(t)), bit(oracle.copy(t)));
         int n = bench.size(t, 0);
@@ -224,6 +272,8 @@ final class OracleTest {
         if (sequential >= 0) {
             SEEN[sequential == 2 && bench.told(2) == 101 ? 9 : 6 + sequential]++;
             SEEN[12] = Math.max(SEEN[12], bench.told(3));
+            SEEN[13] = Math.max(SEEN[13], sequential == 1 ? bench.told(2) : 0);
+            SEEN[14] = Math.max(SEEN[14], sequential == 1 ? bench.told(1) : 0);
         }
         tellWitness();
         tellLeast();

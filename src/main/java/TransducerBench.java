@@ -700,8 +700,8 @@ public final class TransducerBench {
 
         /** What is apart stays apart: of such DELAYS one letter a side tells all that matters to a Difference. */
         void forgetHowApart() {
-            left.read(1);
-            right.read(2);
+            left.shortenTo(1);
+            right.shortenTo(1);
         }
 
         boolean isAlike(Pair other) {

@@ -12,6 +12,7 @@ final class HardMachinesTest {
         new HardMachinesTest().thousandPairs();
         new HardMachinesTest().hundredSets();
         new HardMachinesTest().delaysUpToTheBound();
+        new HardMachinesTest().tooLongAndTooMany();
         CHECK.finish("HardMachinesTest");
     }
 
@@ -130,6 +131,17 @@ final class HardMachinesTest {
         CHECK.due("sequential", bench.sequential(0), 0);
         oracle.sequential(0);
         CHECK.due("levels of at most 108 letters, and one more", bench.told(0), 38);
+        dueTold();
+    }
+
+    /** At one level a thousand pairs are passed, and behind them a DELAY is too long: that goes ahead. */
+    private void tooLongAndTooMany() {
+        load(0, 30, new int[] {-1, -1, 2, -1, -1, -1}, 2, 1, 3, 2, 5, 3, 2, 111, 4, 2, 0, 2, 5, 3, 4, 1, 3, 1, 2, 1,
+                3, 2, 1, 0, 2, 2, 5, 1, 5, 3, 5, 1, 0, 2, 2, 111, 1, 1, 0, 0, 4, 1, 4, 12);
+        CHECK.due("not SEQUENTIAL", bench.sequential(0), 0);
+        oracle.sequential(0);
+        CHECK.due("too many", bench.told(1), 1001);
+        CHECK.due("levels", bench.told(0), 56);
         dueTold();
     }
 }

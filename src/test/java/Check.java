@@ -1,15 +1,20 @@
 /** Counts the answers that are not as due, and prints them. */
 final class Check {
+    private static final int MOST_PRINTED = 50;
+
     private long asked = 0;
     private int wrong = 0;
+    private String sentence = "";
+
+    /** The document's sentence that the answers from here on are due by. */
+    void sentence(String words) {
+        sentence = "\"" + words + "\": ";
+    }
 
     void due(String call, long got, long want) {
         asked++;
         if (got != want) {
-            wrong++;
-            if (wrong <= 50) {
-                System.out.println(call + " answered " + got + ", due is " + want);
-            }
+            report(call + " answered " + got + ", due is " + want);
         }
     }
 
@@ -20,10 +25,14 @@ final class Check {
     void due(String call, String got, String want) {
         asked++;
         if (!got.equals(want)) {
-            wrong++;
-            if (wrong <= 50) {
-                System.out.println(call + " answered \"" + got + "\", due is \"" + want + "\"");
-            }
+            report(call + " answered \"" + got + "\", due is \"" + want + "\"");
+        }
+    }
+
+    private void report(String fault) {
+        wrong++;
+        if (wrong <= MOST_PRINTED) {
+            System.out.println(sentence + fault);
         }
     }
 

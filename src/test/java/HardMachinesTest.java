@@ -115,9 +115,8 @@ final class HardMachinesTest {
         CHECK.due("told", bench.told(2), 100);
         CHECK.due("a hundred STATES", bench.told(3), 100);
         dueTold();
-        load(1, 32, ends, 5, 3, 0, 1, 5, 3, 1, 2, 5, 3, 2, 3, 5, 3, 3, 4, 5, 3, 4, 5, 0, 1, 2, 0, 1, 1, 1, 0, 2, 1, 4, 0,
-                3, 1, 3, 0, 4, 1, 0, 0, 0, 2, 1, 0, 1, 2, 4, 0, 2, 2, 3, 0, 3, 2, 0, 0, 4, 2, 2, 0, 0, 3, 0, 0,
-                1, 3, 1, 0, 2, 3, 2, 0, 4, 3, 4, 0);
+        load(1, 16, ends, 4, 3, 0, 1, 4, 3, 1, 2, 4, 3, 2, 3, 4, 3, 3, 4, 0, 1, 1, 0, 1, 1, 2, 0, 2, 1, 3, 0, 3, 1, 0, 0,
+                0, 2, 0, 0, 1, 2, 3, 0, 2, 2, 1, 0, 3, 2, 2, 0, 1, 3, 0, 0, 2, 3, 2, 0);
         CHECK.due("one SET more", bench.sequential(1), 2);
         oracle.sequential(1);
         CHECK.due("told then", bench.told(2), 101);

@@ -33,87 +33,10 @@ final class PromisesTest {
         CHECK.finish("PromisesTest");
     }
 
-    // What the tests read
-
-    private static String output(TransducerBench x, int i) {
-        StringBuilder word = new StringBuilder();
-        for (int k = 0; x.output(i, k) > 0; k++) {
-            word.append(x.output(i, k));
-        }
-        return word.toString();
-    }
-
-    private static String witness(TransducerBench x) {
-        StringBuilder word = new StringBuilder();
-        for (int k = 0; x.witness(k) > 0; k++) {
-            word.append(x.witness(k));
-        }
-        return word.toString();
-    }
-
-    private static String wrote(TransducerBench x, int which) {
-        StringBuilder word = new StringBuilder();
-        for (int k = 0; x.wrote(which, k) > 0; k++) {
-            word.append(x.wrote(which, k));
-        }
-        return x.wrote(which, -1) == -2 ? "none" : word.toString();
-    }
-
-    private static String writes(TransducerBench x, int q, int letter) {
-        StringBuilder word = new StringBuilder();
-        for (int k = 0; x.writes(q, letter, k) > 0; k++) {
-            word.append(x.writes(q, letter, k));
-        }
-        return x.writes(q, letter, -1) == -2 ? "none" : word.toString();
-    }
-
-    private static String acted(TransducerBench x) {
-        StringBuilder word = new StringBuilder();
-        for (int k = 0; x.acted(k) > 0; k++) {
-            word.append(x.acted(k));
-        }
-        return word.toString();
-    }
-
     private static void dueTold(TransducerBench x, int levels, int pairs, int sets, int states, int arcs) {
         int[] want = {levels, pairs, sets, states, arcs};
         for (int what = 0; what < want.length; what++) {
             CHECK.due("told(" + what + ")", x.told(what), want[what]);
-        }
-    }
-
-    /** One STATE that writes a word for each letter it reads. */
-    private static void makeOneState(TransducerBench x, int t, int end, int... words) {
-        x.machine(t, 1);
-        x.begins(t, 0, true);
-        x.ends(t, 0, end);
-        for (int k = 0; k < words.length; k++) {
-            x.arc(t, 0, k + 1, 0, words[k]);
-        }
-    }
-
-    /** After a first 1: reads 1s, and a 2 or a 3 tells whether each of them is an 8 or a 9. */
-    private static void makeGuess(TransducerBench x, int t) {
-        x.machine(t, 4);
-        x.begins(t, 0, true);
-        x.begins(t, 1, true);
-        x.arc(t, 0, 1, 0, 8);
-        x.arc(t, 1, 1, 1, 9);
-        x.arc(t, 0, 2, 2, 0);
-        x.arc(t, 1, 3, 2, 0);
-        x.ends(t, 2, 0);
-    }
-
-    /** Five tokens with WORDS of their own, moved about by 1 and 2; the one on STATE 0 is written. */
-    private static void makeTokens(TransducerBench x, int t) {
-        int[] words = {1, 2, 3, 4, 5};
-        x.machine(t, 6);
-        x.begins(t, 5, true);
-        x.ends(t, 0, 0);
-        for (int q = 0; q < 5; q++) {
-            x.arc(t, 5, 3, q, words[q]);
-            x.arc(t, q, 1, (q + 1) % 5, 0);
-            x.arc(t, q, 2, q < 2 ? 1 - q : q, 0);
         }
     }
 
@@ -185,14 +108,14 @@ final class PromisesTest {
         for (int word : good) {
             CHECK.due("4 end " + word, x.ends(0, 0, word), true);
             CHECK.due("4 output", x.apply(0, 0), 1);
-            CHECK.due("4 word", output(x, 0), word == 0 ? "" : "" + word);
+            CHECK.due("4 word", View.output(x, 0), word == 0 ? "" : "" + word);
         }
         int[] bad = {-2, 10, 101, 110, 100, 1000, 1111, Integer.MAX_VALUE, Integer.MIN_VALUE};
         for (int word : bad) {
             CHECK.due("4 no end " + word, x.ends(0, 0, word), false);
         }
         x.apply(0, 0);
-        CHECK.due("4 kept", output(x, 0), "123");
+        CHECK.due("4 kept", View.output(x, 0), "123");
         CHECK.due("4 none", x.ends(0, 0, NONE), true);
         CHECK.due("4 without", x.apply(0, 0), 0);
         CHECK.due("4 no state", x.ends(0, 2, 0), false);
@@ -230,14 +153,14 @@ final class PromisesTest {
 
     private static void promise6Copy() {
         TransducerBench x = new TransducerBench();
-        makeOneState(x, 0, 7, 1, 2, 3);
+        Make.oneState(x, 0, 7, 1, 2, 3);
         CHECK.due("6 copy", x.copy(1), true);
         CHECK.due("6 arcs", x.size(1, 1), 3);
         CHECK.due("6 apply", x.apply(1, 321), 1);
-        CHECK.due("6 output", output(x, 0), "3217");
+        CHECK.due("6 output", View.output(x, 0), "3217");
         x.ends(0, 0, 8);
         x.apply(1, 0);
-        CHECK.due("6 on its own", output(x, 0), "7");
+        CHECK.due("6 on its own", View.output(x, 0), "7");
         x.machine(0, 0);
         CHECK.due("6 back", x.copy(1), true);
         CHECK.due("6 empty", x.size(1, 0), 0);
@@ -257,7 +180,7 @@ final class PromisesTest {
         CHECK.due("7 sequential", x.sequential(0), 1);
         CHECK.due("7 no machine", x.take(2), false);
         CHECK.due("7 no machine below", x.take(-1), false);
-        CHECK.due("7 written ahead of all", writes(x, NONE, 0), "1");
+        CHECK.due("7 written ahead of all", View.writes(x, NONE, 0), "1");
         CHECK.due("7 a begin word", x.take(1), false);
         x.ends(0, 0, 3);
         x.arc(0, 0, 2, 0, 4);
@@ -271,11 +194,11 @@ final class PromisesTest {
         CHECK.due("7 same", x.same(), 1);
         CHECK.due("7 take over its own", x.take(0), true);
         CHECK.due("7 again the same", x.same(), 1);
-        makeGuess(x, 0);
+        Make.guess(x, 0);
         CHECK.due("7 not sequential", x.sequential(0), 0);
         CHECK.due("7 none then", x.take(1), false);
         CHECK.due("7 nothing happened", x.size(1, 0), 2);
-        makeOneState(x, 0, NONE);
+        Make.oneState(x, 0, NONE);
         CHECK.due("7 no word", x.sequential(0), 1);
         CHECK.due("7 no states", x.take(1), true);
         CHECK.due("7 none left", x.size(1, 0), 0);
@@ -291,7 +214,7 @@ final class PromisesTest {
         x.arc(0, 1, 2, 2, 34);
         x.ends(0, 2, 0);
         CHECK.due("7 long", x.sequential(0), 1);
-        CHECK.due("7 four letters at once", writes(x, 0, 1), "1234");
+        CHECK.due("7 four letters at once", View.writes(x, 0, 1), "1234");
         CHECK.due("7 too long", x.take(1), false);
         x.machine(0, 2);
         x.begins(0, 0, true);
@@ -299,11 +222,11 @@ final class PromisesTest {
         x.arc(0, 0, 1, 1, 1);
         x.ends(0, 1, 222);
         CHECK.due("7 three", x.sequential(0), 1);
-        CHECK.due("7 four again", writes(x, 0, 1), "1222");
+        CHECK.due("7 four again", View.writes(x, 0, 1), "1222");
         CHECK.due("7 four is too long", x.take(1), false);
         x.arc(0, 1, 1, 0, 3);
         CHECK.due("7 three at the end", x.sequential(0), 1);
-        CHECK.due("7 end", writes(x, 1, 0), "222");
+        CHECK.due("7 end", View.writes(x, 1, 0), "222");
         CHECK.due("7 three is not too long", x.take(1), true);
         CHECK.due("7 is the same", x.same(), 1);
     }
@@ -376,18 +299,18 @@ final class PromisesTest {
 
     private static void promise10Apply() {
         TransducerBench x = new TransducerBench();
-        makeOneState(x, 0, 9, 1, 22, 333);
+        Make.oneState(x, 0, 9, 1, 22, 333);
         CHECK.due("10 empty", x.apply(0, 0), 1);
         CHECK.due("10 one", x.apply(0, 3), 1);
         CHECK.due("10 nine letters", x.apply(0, 333333333), 1);
-        CHECK.due("10 long output", output(x, 0).length(), 28);
+        CHECK.due("10 long output", View.output(x, 0).length(), 28);
         int[] bad = {-1, 4, 10, 14, 120, 1111111111, 333333334, Integer.MAX_VALUE, Integer.MIN_VALUE};
         for (int word : bad) {
             CHECK.due("10 no word " + word, x.apply(0, word), NONE);
         }
         CHECK.due("10 no machine", x.apply(2, 1), NONE);
         CHECK.due("10 no machine below", x.apply(-1, 1), NONE);
-        CHECK.due("10 kept", output(x, 0).length(), 28);
+        CHECK.due("10 kept", View.output(x, 0).length(), 28);
         x.arc(0, 0, 1, 0, 11);
         CHECK.due("10 each once", x.apply(0, 11), 3);
         CHECK.due("10 each once still", x.apply(0, 111111111), 10);
@@ -438,7 +361,7 @@ final class PromisesTest {
             x.arc(1, 0, 2, 1, word * 11);
         }
         CHECK.due("10 sixty", x.apply(1, 12), 60);
-        CHECK.due("10 the sixtieth", output(x, 59), "644");
+        CHECK.due("10 the sixtieth", View.output(x, 59), "644");
         CHECK.due("10 no more", x.output(60, 0), -2);
         x.begins(1, 1, true);
         x.arc(1, 1, 1, 1, 5);
@@ -451,14 +374,14 @@ final class PromisesTest {
     private static void promise11Output() {
         TransducerBench x = new TransducerBench();
         CHECK.due("11 ahead of any", x.output(0, 0), -2);
-        makeOneState(x, 0, 0, 21);
+        Make.oneState(x, 0, 0, 21);
         x.arc(0, 0, 1, 0, 12);
         x.arc(0, 0, 1, 0, 3);
         x.arc(0, 0, 1, 0, 0);
         CHECK.due("11 four", x.apply(0, 1), 4);
         String[] due = {"", "3", "12", "21"};
         for (int i = 0; i < 4; i++) {
-            CHECK.due("11 the least first", output(x, i), due[i]);
+            CHECK.due("11 the least first", View.output(x, i), due[i]);
             CHECK.due("11 behind its end", x.output(i, due[i].length()), NONE);
             CHECK.due("11 k below", x.output(i, -1), NONE);
         }
@@ -467,9 +390,9 @@ final class PromisesTest {
         CHECK.due("11 no output below", x.output(-1, 0), -2);
         CHECK.due("11 no output, k below", x.output(4, -1), -2);
         x.apply(0, -7);
-        CHECK.due("11 none counts not", output(x, 3), "21");
+        CHECK.due("11 none counts not", View.output(x, 3), "21");
         x.machine(0, 0);
-        CHECK.due("11 as it was", output(x, 3), "21");
+        CHECK.due("11 as it was", View.output(x, 3), "21");
         x.apply(0, 1);
         CHECK.due("11 no outputs", x.output(0, 0), -2);
     }
@@ -477,20 +400,20 @@ final class PromisesTest {
     private static void promise12Functional() {
         TransducerBench x = new TransducerBench();
         CHECK.due("12 no states", x.functional(0), 1);
-        makeOneState(x, 0, 1, 1, 2, 3);
+        Make.oneState(x, 0, 1, 1, 2, 3);
         CHECK.due("12 one", x.functional(0), 1);
         x.arc(0, 0, 2, 0, 3);
         CHECK.due("12 two outputs", x.functional(0), 0);
-        CHECK.due("12 witness", witness(x), "2");
-        CHECK.due("12 first", wrote(x, 0), "21");
-        CHECK.due("12 second", wrote(x, 1), "31");
+        CHECK.due("12 witness", View.witness(x), "2");
+        CHECK.due("12 first", View.wrote(x, 0), "21");
+        CHECK.due("12 second", View.wrote(x, 1), "31");
         x.ends(0, 0, NONE);
         CHECK.due("12 no way", x.functional(0), 1);
-        makeGuess(x, 1);
+        Make.guess(x, 1);
         CHECK.due("12 guess", x.functional(1), 1);
         x.arc(1, 1, 2, 2, 0);
         CHECK.due("12 guess fails", x.functional(1), 0);
-        CHECK.due("12 least", witness(x), "12");
+        CHECK.due("12 least", View.witness(x), "12");
         x.machine(0, 2);
         x.begins(0, 0, true);
         x.begins(0, 1, true);
@@ -498,7 +421,7 @@ final class PromisesTest {
         x.ends(0, 1, 4);
         CHECK.due("12 the empty word", x.functional(0), 0);
         CHECK.due("12 no letters", x.witness(0), NONE);
-        CHECK.due("12 least first", wrote(x, 0) + "," + wrote(x, 1), "4,5");
+        CHECK.due("12 least first", View.wrote(x, 0) + "," + View.wrote(x, 1), "4,5");
         CHECK.due("12 no machine", x.functional(2), NONE);
         CHECK.due("12 no machine below", x.functional(-1), NONE);
     }
@@ -516,14 +439,14 @@ final class PromisesTest {
         x.arc(0, 4, 2, 5, 111);
         x.ends(0, 5, 0);
         CHECK.due("12 three are missing", x.functional(0), 0);
-        CHECK.due("12 where", witness(x), "112");
-        CHECK.due("12 what", wrote(x, 0) + "," + wrote(x, 1), "111,111111");
+        CHECK.due("12 where", View.witness(x), "112");
+        CHECK.due("12 what", View.wrote(x, 0) + "," + View.wrote(x, 1), "111,111111");
     }
 
     private static void promise13Readers() {
         TransducerBench x = new TransducerBench();
-        makeOneState(x, 0, 1, 1, 2, 3);
-        makeOneState(x, 1, 5, 4, 4, 4);
+        Make.oneState(x, 0, 1, 1, 2, 3);
+        Make.oneState(x, 1, 5, 4, 4, 4);
         CHECK.due("13 same readers", x.readers(), 1);
         CHECK.due("13 no witness", x.witness(0), -2);
         x.machine(1, 2);
@@ -533,23 +456,23 @@ final class PromisesTest {
         x.arc(1, 0, 2, 1, 4);
         x.ends(1, 1, 6);
         CHECK.due("13 others", x.readers(), 0);
-        CHECK.due("13 the least", witness(x), "3");
-        CHECK.due("13 of 0", wrote(x, 0), "31");
-        CHECK.due("13 of 1", wrote(x, 1), "none");
+        CHECK.due("13 the least", View.witness(x), "3");
+        CHECK.due("13 of 0", View.wrote(x, 0), "31");
+        CHECK.due("13 of 1", View.wrote(x, 1), "none");
         x.machine(0, 1);
         x.begins(0, 0, true);
         x.arc(0, 0, 3, 0, 3);
         x.ends(1, 0, NONE);
         x.arc(1, 0, 2, 1, 3);
         CHECK.due("13 one way round", x.readers(), 0);
-        CHECK.due("13 its witness", witness(x), "2");
-        CHECK.due("13 of 0 then", wrote(x, 0), "none");
-        CHECK.due("13 of 1 then the least", wrote(x, 1), "36");
+        CHECK.due("13 its witness", View.witness(x), "2");
+        CHECK.due("13 of 0 then", View.wrote(x, 0), "none");
+        CHECK.due("13 of 1 then the least", View.wrote(x, 1), "36");
     }
 
     private static void promise14Same() {
         TransducerBench x = new TransducerBench();
-        makeOneState(x, 0, 0, 12, 1);
+        Make.oneState(x, 0, 0, 12, 1);
         x.machine(1, 2);
         x.begins(1, 0, true);
         x.ends(1, 0, 0);
@@ -561,21 +484,21 @@ final class PromisesTest {
         CHECK.due("14 same", x.same(), 1);
         x.arc(1, 1, 3, 1, 1);
         CHECK.due("14 not", x.same(), 0);
-        CHECK.due("14 the least", witness(x), "13");
-        CHECK.due("14 none", wrote(x, 0), "none");
-        CHECK.due("14 of 1", wrote(x, 1), "112");
+        CHECK.due("14 the least", View.witness(x), "13");
+        CHECK.due("14 none", View.wrote(x, 0), "none");
+        CHECK.due("14 of 1", View.wrote(x, 1), "112");
         x.ends(0, 0, 1);
         CHECK.due("14 other outputs first", x.same(), 0);
-        CHECK.due("14 the empty word", witness(x), "");
-        CHECK.due("14 of both", wrote(x, 0) + "," + wrote(x, 1), "1,");
+        CHECK.due("14 the empty word", View.witness(x), "");
+        CHECK.due("14 of both", View.wrote(x, 0) + "," + View.wrote(x, 1), "1,");
         x.arc(1, 0, 2, 0, 2);
         CHECK.due("14 one is not functional", x.same(), NONE);
-        CHECK.due("14 it shows", witness(x), "2");
-        CHECK.due("14 its outputs", wrote(x, 0) + "," + wrote(x, 1), "1,2");
+        CHECK.due("14 it shows", View.witness(x), "2");
+        CHECK.due("14 its outputs", View.wrote(x, 0) + "," + View.wrote(x, 1), "1,2");
         x.arc(0, 0, 1, 0, 3);
         CHECK.due("14 neither is", x.same(), NONE);
-        CHECK.due("14 0 is asked first", witness(x), "1");
-        CHECK.due("14 its two", wrote(x, 0) + "," + wrote(x, 1), "31,121");
+        CHECK.due("14 0 is asked first", View.witness(x), "1");
+        CHECK.due("14 its two", View.wrote(x, 0) + "," + View.wrote(x, 1), "31,121");
     }
 
     private static void promise15Sequential() {
@@ -584,15 +507,15 @@ final class PromisesTest {
         CHECK.due("15 no machine below", x.sequential(-1), NONE);
         CHECK.due("15 no states", x.sequential(0), 1);
         dueTold(x, 0, 0, 0, 0, 0);
-        makeGuess(x, 0);
+        Make.guess(x, 0);
         CHECK.due("15 guess", x.sequential(0), 0);
         dueTold(x, 11, 4 + 2 * 10 + 1, NONE, NONE, NONE);
-        makeOneState(x, 0, 0, 1);
+        Make.oneState(x, 0, 0, 1);
         x.arc(0, 0, 1, 0, 2);
         CHECK.due("15 not functional", x.sequential(0), NONE);
-        CHECK.due("15 witness", witness(x), "1");
+        CHECK.due("15 witness", View.witness(x), "1");
         CHECK.due("15 none is none", x.told(0), 11);
-        makeOneState(x, 1, 4, 1, 22);
+        Make.oneState(x, 1, 4, 1, 22);
         CHECK.due("15 one state", x.sequential(1), 1);
         dueTold(x, 1, 1, 1, 1, 2);
         x.machine(0, 3);
@@ -604,12 +527,12 @@ final class PromisesTest {
         x.ends(0, 0, 0);
         CHECK.due("15 one letter ahead", x.sequential(0), 1);
         dueTold(x, 2, 5, 2, 2, 3);
-        CHECK.due("15 written late", writes(x, 0, 1) + "," + writes(x, 1, 2) + "," + writes(x, 1, 3), ",81,91");
+        CHECK.due("15 written late", View.writes(x, 0, 1) + "," + View.writes(x, 1, 2) + "," + View.writes(x, 1, 3), ",81,91");
     }
 
     private static void promise15Untold() {
         TransducerBench x = new TransducerBench();
-        makeTokens(x, 1);
+        Make.tokens(x, 1);
         CHECK.due("15 sets", x.sequential(1), 2);
         CHECK.due("15 sets told", x.told(2), 101);
         CHECK.due("15 twins told", x.told(1), 1 + 5 + 400);
@@ -644,20 +567,20 @@ final class PromisesTest {
 
     private static void promise15Asked24Times() {
         TransducerBench x = new TransducerBench();
-        makeGuess(x, 0);
-        makeOneState(x, 1, 0, 1);
+        Make.guess(x, 0);
+        Make.oneState(x, 1, 0, 1);
         x.arc(1, 0, 1, 0, 2);
         for (int i = 0; i < 23; i++) {
             CHECK.due("15 asked", x.sequential(0), 0);
             CHECK.due("15 none counts not", x.sequential(1), NONE);
         }
-        makeOneState(x, 0, 3, 1, 2);
+        Make.oneState(x, 0, 3, 1, 2);
         CHECK.due("15 the 24th", x.sequential(0), 1);
-        makeOneState(x, 0, 3, 1);
+        Make.oneState(x, 0, 3, 1);
         x.arc(0, 0, 1, 0, 2);
         CHECK.due("15 asked too often", x.sequential(0), -2);
-        CHECK.due("15 ahead of functional", witness(x), "1");
-        CHECK.due("15 its outputs stay", wrote(x, 1), "2");
+        CHECK.due("15 ahead of functional", View.witness(x), "1");
+        CHECK.due("15 its outputs stay", View.wrote(x, 1), "2");
         CHECK.due("15 no machine", x.sequential(2), NONE);
         CHECK.due("15 told stays", x.told(4), 2);
         CHECK.due("15 least stays", x.act(2), 2);
@@ -667,45 +590,45 @@ final class PromisesTest {
         TransducerBench x = new TransducerBench();
         CHECK.due("16 without", x.witness(0), -2);
         CHECK.due("16 without, k below", x.witness(-1), -2);
-        makeOneState(x, 0, 0, 1, 2);
-        makeOneState(x, 1, 0, 1, 2, 3);
+        Make.oneState(x, 0, 0, 1, 2);
+        Make.oneState(x, 1, 0, 1, 2, 3);
         x.readers();
-        CHECK.due("16 readers", witness(x), "3");
+        CHECK.due("16 readers", View.witness(x), "3");
         CHECK.due("16 behind its end", x.witness(1), NONE);
         CHECK.due("16 k below", x.witness(-1), NONE);
         CHECK.due("16 far behind", x.witness(Integer.MAX_VALUE), NONE);
         x.functional(0);
-        CHECK.due("16 a 1 leaves it", witness(x), "3");
+        CHECK.due("16 a 1 leaves it", View.witness(x), "3");
         x.ends(1, 0, 4);
         x.same();
-        CHECK.due("16 same", witness(x), "");
+        CHECK.due("16 same", View.witness(x), "");
         x.arc(0, 0, 2, 0, 22);
         x.sequential(0);
-        CHECK.due("16 sequential", witness(x), "2");
+        CHECK.due("16 sequential", View.witness(x), "2");
         x.arc(1, 0, 1, 0, 22);
         x.functional(1);
-        CHECK.due("16 functional", witness(x), "1");
+        CHECK.due("16 functional", View.witness(x), "1");
         x.machine(1, 0);
-        CHECK.due("16 as it was", witness(x), "1");
+        CHECK.due("16 as it was", View.witness(x), "1");
     }
 
     private static void promise17Wrote() {
         TransducerBench x = new TransducerBench();
         CHECK.due("17 without", x.wrote(0, 0), -2);
-        makeOneState(x, 0, 0, 31);
+        Make.oneState(x, 0, 0, 31);
         x.arc(0, 0, 1, 0, 22);
         x.arc(0, 0, 1, 0, 123);
         x.arc(0, 0, 1, 0, 999);
         x.functional(0);
-        CHECK.due("17 the least", wrote(x, 0), "22");
-        CHECK.due("17 the next one", wrote(x, 1), "31");
+        CHECK.due("17 the least", View.wrote(x, 0), "22");
+        CHECK.due("17 the next one", View.wrote(x, 1), "31");
         CHECK.due("17 behind its end", x.wrote(0, 2), NONE);
         CHECK.due("17 k below", x.wrote(1, -1), NONE);
         CHECK.due("17 no such output", x.wrote(2, 0), -2);
         CHECK.due("17 no such output below", x.wrote(-1, 0), -2);
-        makeOneState(x, 1, 0);
+        Make.oneState(x, 1, 0);
         x.readers();
-        CHECK.due("17 of 0", wrote(x, 0), "22");
+        CHECK.due("17 of 0", View.wrote(x, 0), "22");
         CHECK.due("17 of 1 none", x.wrote(1, 0), -2);
         CHECK.due("17 of 1 none, k below", x.wrote(1, -1), -2);
         CHECK.due("17 of 1 none, k behind", x.wrote(1, 5), -2);
@@ -716,11 +639,11 @@ final class PromisesTest {
         for (int what = -1; what <= 5; what++) {
             CHECK.due("18 ahead of any", x.told(what), NONE);
         }
-        makeOneState(x, 0, 0, 1);
+        Make.oneState(x, 0, 0, 1);
         x.arc(0, 0, 1, 0, 2);
         x.sequential(0);
         CHECK.due("18 none counts as none", x.told(0), NONE);
-        makeOneState(x, 0, 0, 1, 2, 3);
+        Make.oneState(x, 0, 0, 1, 2, 3);
         x.sequential(0);
         dueTold(x, 1, 1, 1, 1, 3);
         CHECK.due("18 another what", x.told(5), NONE);
@@ -768,7 +691,7 @@ final class PromisesTest {
         CHECK.due("19 as it was", x.goes(0, 3), 2);
         x.sequential(3);
         CHECK.due("19 none changes nothing", x.goes(0, 3), 2);
-        makeGuess(x, 0);
+        Make.guess(x, 0);
         x.sequential(0);
         CHECK.due("19 none then", x.goes(0, 3), NONE);
     }
@@ -784,12 +707,12 @@ final class PromisesTest {
         x.arc(0, 1, 1, 1, 41);
         x.ends(0, 1, 45);
         CHECK.due("20 sequential", x.sequential(0), 1);
-        CHECK.due("20 the begin word", writes(x, NONE, 0), "1");
-        CHECK.due("20 the begin word, whatever the letter", writes(x, NONE, 7), "1");
-        CHECK.due("20 2 and the 4 that comes anyway", writes(x, 0, 1), "24");
-        CHECK.due("20 3 and the 4 that comes anyway", writes(x, 0, 2), "34");
-        CHECK.due("20 the loop turns", writes(x, 1, 1), "14");
-        CHECK.due("20 the end", writes(x, 1, 0), "5");
+        CHECK.due("20 the begin word", View.writes(x, NONE, 0), "1");
+        CHECK.due("20 the begin word, whatever the letter", View.writes(x, NONE, 7), "1");
+        CHECK.due("20 2 and the 4 that comes anyway", View.writes(x, 0, 1), "24");
+        CHECK.due("20 3 and the 4 that comes anyway", View.writes(x, 0, 2), "34");
+        CHECK.due("20 the loop turns", View.writes(x, 1, 1), "14");
+        CHECK.due("20 the end", View.writes(x, 1, 0), "5");
         CHECK.due("20 no end", x.writes(0, 0, 0), -2);
         CHECK.due("20 no arc", x.writes(0, 3, 0), -2);
         CHECK.due("20 no arc, k below", x.writes(0, 3, -1), -2);
@@ -800,7 +723,7 @@ final class PromisesTest {
         CHECK.due("20 behind its end", x.writes(0, 1, 2), NONE);
         CHECK.due("20 k below", x.writes(0, 1, -1), NONE);
         x.machine(0, 0);
-        CHECK.due("20 as it was", writes(x, 1, 0), "5");
+        CHECK.due("20 as it was", View.writes(x, 1, 0), "5");
         x.sequential(0);
         CHECK.due("20 no letters without states", x.writes(NONE, 0, 0), NONE);
         CHECK.due("20 no states", x.writes(0, 0, 0), -2);
@@ -809,7 +732,7 @@ final class PromisesTest {
     private static void promise21Act() {
         TransducerBench x = new TransducerBench();
         CHECK.due("21 without", x.act(0), NONE);
-        makeGuess(x, 0);
+        Make.guess(x, 0);
         x.sequential(0);
         CHECK.due("21 none unless it was 1", x.act(12), NONE);
         x.machine(0, 2);
@@ -833,7 +756,7 @@ final class PromisesTest {
         CHECK.due("21 as it was", x.act(1), 6);
         x.sequential(0);
         CHECK.due("21 no states", x.act(0), NONE);
-        makeOneState(x, 0, 0);
+        Make.oneState(x, 0, 0);
         x.sequential(0);
         CHECK.due("21 no letters", x.act(0), 0);
     }
@@ -842,18 +765,18 @@ final class PromisesTest {
         TransducerBench x = new TransducerBench();
         CHECK.due("22 without", x.acted(0), NONE);
         CHECK.due("22 without, k below", x.acted(-1), NONE);
-        makeOneState(x, 0, 9, 12, 3);
+        Make.oneState(x, 0, 9, 12, 3);
         x.sequential(0);
         CHECK.due("22 act", x.act(121), 6);
-        CHECK.due("22 acted", acted(x), "123129");
+        CHECK.due("22 acted", View.acted(x), "123129");
         x.apply(0, 121);
-        CHECK.due("22 as applied", acted(x), output(x, 0));
+        CHECK.due("22 as applied", View.acted(x), View.output(x, 0));
         CHECK.due("22 behind its end", x.acted(6), NONE);
         CHECK.due("22 k below", x.acted(-1), NONE);
         x.act(3);
-        CHECK.due("22 none counts not", acted(x), "123129");
-        makeGuess(x, 0);
+        CHECK.due("22 none counts not", View.acted(x), "123129");
+        Make.guess(x, 0);
         x.sequential(0);
-        CHECK.due("22 as it was", acted(x), "123129");
+        CHECK.due("22 as it was", View.acted(x), "123129");
     }
 }

@@ -7,6 +7,7 @@ final class SequentialTermsTest {
         usefulAlone();
         levelZero();
         ledOnce();
+        lettersBehindWhatWasLeft();
         eachLetterEachArc();
         wholeLevels();
         delaysOfTheBound();
@@ -49,7 +50,8 @@ final class SequentialTermsTest {
 
     private static void delays() {
         CHECK.sentence("DELAY of two WORDS u, v: what is left of both as long as they begin alike");
-        String[][] alike = {{"12", "13", "2", "3"}, {"11", "1", "1", ""}, {"1", "11", "", "1"}, {"123", "124", "113", "114"},
+        String[][] alike = {{"12", "13", "2", "3"}, {"11", "1", "1", ""}, {"1", "11", "", "1"}, {"123", "124", "113",
+                "114"},
             {"112", "122", "12", "22"}, {"912", "92", "12", "2"}};
         for (String[] w : alike) {
             due("one DELAY of " + String.join(" ", w), 4, twoWays(w[0], w[1], w[2], w[3]), 1, "3 6 3 3 4");
@@ -58,8 +60,10 @@ final class SequentialTermsTest {
         for (String[] w : none) {
             due("nothing is left of " + String.join(" ", w), 4, twoWays(w[0], w[1], w[2], w[3]), 1, "3 6 3 3 4");
         }
-        String[][] unlike = {{"2", "3", "3", "2"}, {"11", "1", "11", "11"}, {"12", "21", "1", "2"}, {"12", "32", "1", "3"},
-            {"1", "", "11", ""}, {"", "1", "1", ""}, {"1", "2", "1", "3"}, {"12", "13", "12", "14"}, {"12", "2", "13", "2"}};
+        String[][] unlike = {{"2", "3", "3", "2"}, {"11", "1", "11", "11"}, {"12", "21", "1", "2"}, {"12", "32", "1",
+                "3"},
+            {"1", "", "11", ""}, {"", "1", "1", ""}, {"1", "2", "1", "3"}, {"12", "13", "12", "14"}, {"12", "2", "13",
+                    "2"}};
         for (String[] w : unlike) {
             due("two DELAYS of " + String.join(" ", w), 4, twoWays(w[0], w[1], w[2], w[3]), 1, "3 8 4 4 6");
         }
@@ -88,9 +92,19 @@ final class SequentialTermsTest {
 
     private static void ledOnce() {
         CHECK.sentence("of each pair at level k that was at no level ahead with that DELAY");
-        TransducerBench x = due("back without a DELAY", 4, ">0 >2 0/ 0-1:1-1 1-1:2-0 2-1:12-3 3-1:-2 2-2:-0", 1, "2 8 4 4 5");
+        TransducerBench x = due("back without a DELAY", 4, ">0 >2 0/ 0-1:1-1 1-1:2-0 2-1:12-3 3-1:-2 2-2:-0", 1,
+                "2 8 4 4 5");
         CHECK.due("the LEAST machine", View.least(x), " 0/ 0-1:12-1 0-2:-2 1-1:-0 2/ 2-1:12-3 3-1:-2");
         due("back with another one", 4, ">0 >2 0/ 0-1:1-1 1-1:2-0 2-1:12-3 3-1:1-2 2-2:-0", 0, "25 54 -1 -1 -1");
+    }
+
+    private static void lettersBehindWhatWasLeft() {
+        CHECK.sentence("with the DELAY of what was left and the ARCS' WORDS behind it");
+        due("2 and 1 behind it, and 21", 4, ">0 >2 0/ 0-1:1-1 1-1:21-0 2-1:12-3 3-1:1-2 2-2:-0", 1, "2 8 4 4 5");
+        due("2 and 1 behind it, and 12", 4, ">0 >2 0/ 0-1:1-1 1-1:12-0 2-1:12-3 3-1:1-2 2-2:-0", 0, "24 52 -1 -1 -1");
+        CHECK.sentence("with what is left of theirs and the ARC's WORD behind");
+        TransducerBench x = due("once more", 4, ">0 >2 0/ 0-1:1-1 1-1:21-0 2-1:12-3 3-1:1-2 2-2:-0", 1, "2 8 4 4 5");
+        CHECK.due("the LEAST machine", View.least(x), " 0/ 0-1:121-1 0-2:-2 1-1:-0 2/ 2-1:121-3 3-1:-2");
     }
 
     private static void eachLetterEachArc() {
@@ -103,7 +117,8 @@ final class SequentialTermsTest {
     private static void wholeLevels() {
         CHECK.sentence("(All of a level is made ahead of what follows.)");
         due("the second one that is too long", 2, ">0 >1 0/ 0-1:1-0 1-1:-1 1-2:-0", 0, "6 14 -1 -1 -1");
-        due("more than a thousand, and then one too long", 6, ">1 >2 >3 >4 2/2 2-1:2-3 5-3:111-2 4-2:2-0 5-3:1-4 3-1:1-2"
+        due("more than a thousand, and then one too long", 6,
+                ">1 >2 >3 >4 2/2 2-1:2-3 5-3:111-2 4-2:2-0 5-3:1-4 3-1:1-2"
                 + " 3-2:-1 2-2:1-5 5-3:1-5 0-2:111-2 1-1:-0 4-1:12-4", 0, "56 1001 -1 -1 -1");
     }
 
@@ -137,12 +152,15 @@ final class SequentialTermsTest {
 
     private static void thousandPairs() {
         CHECK.sentence("if pairs with DELAYS, each once, are more than 1000 by then: UNTOLD (2)");
-        due("1000 in all", 6, ">0 >2 >3 >4 >5 5/ 0-3:21-3 3-3:-1 0-2:-4 3-2:2-3 2-3:1-0 0-1:21-0 2-1:111-3 2-2:211-0 1-1:111-4"
+        due("1000 in all", 6,
+                ">0 >2 >3 >4 >5 5/ 0-3:21-3 3-3:-1 0-2:-4 3-2:2-3 2-3:1-0 0-1:21-0 2-1:111-3 2-2:211-0 1-1:111-4"
                 + " 5-3:112-4 1-1:21-2 1-1:1-3 1-1:1-5 5-1:2-2 1-3:211-4 4-2:11-1 2-1:222-4", 2, "11 1000 101 -1 -1");
-        due("1000 at level 30, more at the next one", 4, ">0 >1 0/ 0-2:1-2 2-2:-0 1-2:2-0 0-1:2-3 1-1:21-2 3-1:-0 0-2:1-3", 2,
+        due("1000 at level 30, more at the next one", 4,
+                ">0 >1 0/ 0-2:1-2 2-2:-0 1-2:2-0 0-1:2-3 1-1:21-2 3-1:-0 0-2:1-3", 2,
                 "32 1001 -1 -1 -1");
         due("1001 at level 12", 3, ">0 >1 >2 0/ 0-3:-1 1-2:12-0 0-3:-2 0-2:1-1 2-2:2-2 2-3:-0", 2, "13 1001 -1 -1 -1");
-        due("1001 at level 97, where one is too long", 5, ">2 >3 3/ 0-3:-2 1-2:1-0 0-2:1-3 0-1:1-4 4-1:1-1 4-3:1-0 3-2:-4"
+        due("1001 at level 97, where one is too long", 5,
+                ">2 >3 3/ 0-3:-2 1-2:1-0 0-2:1-3 0-1:1-4 4-1:1-1 4-3:1-0 3-2:-4"
                 + " 0-1:-0 2-3:-1 4-1:1-2 1-3:1-3", 0, "98 1001 -1 -1 -1");
     }
 
@@ -182,16 +200,20 @@ final class SequentialTermsTest {
     private static void commonBeginnings() {
         CHECK.sentence("less the longest beginning that all have in common (which is written)");
         dueLeast("of two", 4, twoWays("12", "13", "2", "3"), " 0-1:1-1 0-2:-1 1-1:2-2 1-2:3-2 2/");
-        dueLeast("of two, all of the one", 4, twoWays("12", "1", "", "2"), " 0-1:1-1 0-2:-2 1-1:2-3 1-2:-3 2-1:-3 2-2:2-3 3/");
+        dueLeast("of two, all of the one", 4, twoWays("12", "1", "", "2"),
+                " 0-1:1-1 0-2:-2 1-1:2-3 1-2:-3 2-1:-3 2-2:2-3 3/");
         dueLeast("of two, all", 4, twoWays("12", "12", "31", "31"), " 0-1:12-1 0-2:31-1 1-1:-2 1-2:-2 2/");
-        dueLeast("of two, nothing", 4, twoWays("12", "22", "2", "3"), " 0-1:-1 0-2:-2 1-1:12-3 1-2:22-3 2-1:2-3 2-2:3-3 3/");
-        dueLeast("of three", 5, ">0 4/ 0-1:12-1 0-1:13-2 0-1:1-3 1-1:-4 2-2:-4 3-3:-4", "1 0-1:-1 1-1:2-2 1-2:3-2 1-3:-2 2/");
+        dueLeast("of two, nothing", 4, twoWays("12", "22", "2", "3"),
+                " 0-1:-1 0-2:-2 1-1:12-3 1-2:22-3 2-1:2-3 2-2:3-3 3/");
+        dueLeast("of three", 5, ">0 4/ 0-1:12-1 0-1:13-2 0-1:1-3 1-1:-4 2-2:-4 3-3:-4",
+                "1 0-1:-1 1-1:2-2 1-2:3-2 1-3:-2 2/");
         dueLeast("of one", 3, ">0 2/ 0-1:123-1 0-2:4-1 1-1:-2", " 0-1:123-1 0-2:4-1 1-1:-2 2/");
     }
 
     private static void hundredSets() {
         CHECK.sentence("Where more than 100 SETS would be there: UNTOLD.");
-        due("100", 6, ">5 0/ 5-3:1-0 5-3:2-1 5-3:3-2 5-3:4-3 5-3:5-4 0-1:-4 1-1:-1 2-1:-3 3-1:-2 4-1:-0 0-2:-2 1-2:-0 2-2:-1"
+        due("100", 6,
+                ">5 0/ 5-3:1-0 5-3:2-1 5-3:3-2 5-3:4-3 5-3:5-4 0-1:-4 1-1:-1 2-1:-3 3-1:-2 4-1:-0 0-2:-2 1-2:-0 2-2:-1"
                 + " 4-2:-3 0-3:-0 1-3:-1 2-3:-2 3-3:-3 4-3:-4", 1, "8 146 100 100 297");
         due("101", 5, ">4 0/ 4-3:1-0 4-3:2-1 4-3:3-2 4-3:4-3 0-1:-1 1-1:-2 2-1:-3 3-1:-0 0-2:-0 1-2:-3 2-2:-1 3-2:-2"
                 + " 1-3:-0 2-3:-2", 2, "6 149 101 -1 -1");
@@ -201,7 +223,8 @@ final class SequentialTermsTest {
         CHECK.sentence("of SETS those that cannot be told apart by what may still be read and written are one STATE");
         String two = ">0 0/ 3/ 0-1:-1 0-2:-2 ";
         dueLeast("alike", 4, two + "1-3:5-3 2-3:5-3", " 0/ 0-1:5-1 0-2:5-1 1-3:-2 2/");
-        dueLeast("alike but for where it is written", 4, ">0 0/ 3/ 0-1:5-1 0-2:-2 1-3:-3 2-3:5-3", " 0/ 0-1:5-1 0-2:5-1 1-3:-2 2/");
+        dueLeast("alike but for where it is written", 4, ">0 0/ 3/ 0-1:5-1 0-2:-2 1-3:-3 2-3:5-3",
+                " 0/ 0-1:5-1 0-2:5-1 1-3:-2 2/");
         dueLeast("an END", 4, two + "1/5 1-3:5-3 2-3:5-3", " 0/ 0-1:5-1 0-2:5-2 1/ 1-3:-3 2-3:-3 3/");
         dueLeast("an ARC", 4, two + "1-3:5-3 2-2:5-3 2-3:5-3", " 0/ 0-1:5-1 0-2:5-2 1-3:-3 2-2:-3 2-3:-3 3/");
         dueLeast("its letter", 4, two + "1-3:5-3 2-2:5-3", " 0/ 0-1:5-1 0-2:5-2 1-3:-3 2-2:-3 3/");
@@ -209,7 +232,8 @@ final class SequentialTermsTest {
         dueLeast("the END's WORD", 4, two + "1/6 2/7 1-3:5-3 2-3:5-3", " 0/ 0-1:-1 0-2:-2 1/6 1-3:5-3 2/7 2-3:5-3 3/");
         dueLeast("far behind", 6, ">0 0-1:-1 0-2:-2 1-1:-3 2-1:-4 3-1:-5 4-2:-5 5/",
                 " 0-1:-1 0-2:-2 1-1:-3 2-1:-4 3-1:-5 4-2:-5 5/");
-        dueLeast("nothing far behind", 6, ">0 0-1:-1 0-2:-2 1-1:-3 2-1:-4 3-1:-5 4-1:-5 5/", " 0-1:-1 0-2:-1 1-1:-2 2-1:-3 3/");
+        dueLeast("nothing far behind", 6, ">0 0-1:-1 0-2:-2 1-1:-3 2-1:-4 3-1:-5 4-1:-5 5/",
+                " 0-1:-1 0-2:-1 1-1:-2 2-1:-3 3/");
         dueLeast("all are one", 6, ">0 0/ 1/ 2/ 3/ 4/ 5/ 0-1:-1 1-1:-2 2-1:-3 3-1:-4 4-1:-5 5-1:-0", " 0/ 0-1:-0");
     }
 
@@ -232,8 +256,9 @@ final class SequentialTermsTest {
     }
 
     private static void orderOfStates() {
-        CHECK.sentence("of the others 0 is the first one, then by the order in which they are come to");
-        dueLeast("STATE by STATE, letter by letter", 6, "5/1 3/2 1/3 4/4 0/4 2/4 4-1:7-4 0-2:7-0 2-3:7-2 1-3:-2 1-1:-0 3-1:-4"
+        CHECK.sentence("of the others 0 is the first one, then by the order in which they are come to (STATE by STATE, letter by letter).");
+        dueLeast("STATE by STATE, letter by letter", 6,
+                "5/1 3/2 1/3 4/4 0/4 2/4 4-1:7-4 0-2:7-0 2-3:7-2 1-3:-2 1-1:-0 3-1:-4"
                 + " 5-2:-1 5-1:-3 >5",
                 " 0/1 0-1:-1 0-2:-2 1/2 1-1:-3 2/3 2-1:-4 2-3:-5 3/4 3-1:7-3 4/4 4-2:7-4 5/4 5-3:7-5");
     }

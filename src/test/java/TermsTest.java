@@ -1,4 +1,5 @@
-/** Each sentence of the document's "Terms" that names a boundary case: the last that is so, and the first that isn't. */
+/** Each sentence of the document's "Terms" that names a boundary case: the last that is so,
+        and the first that isn't. */
 final class TermsTest {
     private static final int NONE = TransducerBench.NONE;
     private static final int WITHOUT = -2;
@@ -329,7 +330,8 @@ final class TermsTest {
     private static void outputsEachOnce() {
         CHECK.sentence("The OUTPUTS of a WORD: those of all its WAYS, each once.");
         CHECK.due("no WAY", View.outputs(bench(1, ">0 0/"), 0, 1), "");
-        CHECK.due("two WAYS, one output", View.outputs(bench(4, ">0 0-1:12-1 1-1:3-3 0-1:1-2 2-1:23-3 3/4"), 0, 11), "<1234>");
+        CHECK.due("two WAYS, one output", View.outputs(bench(4, ">0 0-1:12-1 1-1:3-3 0-1:1-2 2-1:23-3 3/4"), 0, 11),
+                "<1234>");
         CHECK.due("two ENDS, one output", View.outputs(bench(3, ">0 0-1:12-1 0-1:1-2 1/3 2/23"), 0, 1), "<123>");
         CHECK.due("two BEGINNINGS, one output", View.outputs(bench(2, ">0 >1 0/3 1/3"), 0, 0), "<3>");
         CHECK.due("two outputs", View.outputs(bench(2, ">0 >1 0/3 1/33"), 0, 0), "<3> <33>");
@@ -376,8 +378,10 @@ final class TermsTest {
         CHECK.due("two ARCS", bench(1, ">0 0/ 0-1:1-0 0-1:-0").functional(0), 0);
         CHECK.due("two ARCS to no END", bench(2, ">0 0/ 0-1:1-1 0-1:-1").functional(0), 1);
         CHECK.due("two ARCS from no BEGINNING", bench(2, ">0 0/ 1-1:1-0 1-1:-0").functional(0), 1);
-        CHECK.due("two far behind", bench(6, ">0 0-1:1-0 0-2:-1 1-2:-2 2-2:-3 3-2:-4 4-3:2-5 4-3:3-5 5/").functional(0), 0);
-        CHECK.due("unlike on the way, alike at the END", bench(3, ">0 0-1:111-1 0-1:-2 1/1 2/111 2-1:-2").functional(0), 0);
+        CHECK.due("two far behind", bench(6,
+                ">0 0-1:1-0 0-2:-1 1-2:-2 2-2:-3 3-2:-4 4-3:2-5 4-3:3-5 5/").functional(0), 0);
+        CHECK.due("unlike on the way, alike at the END", bench(3,
+                ">0 0-1:111-1 0-1:-2 1/1 2/111 2-1:-2").functional(0), 0);
         CHECK.due("now alike", bench(3, ">0 0-1:11-1 0-1:-2 1/1 2/111 2-2:-2").functional(0), 1);
     }
 
@@ -387,8 +391,10 @@ final class TermsTest {
         CHECK.due("none, the empty one", bench(3, ">0 0-1:-1 2/", 1, ">0 0/").readers(), 0);
         CHECK.due("the empty one, none", bench(1, ">0 0/", 0, "").readers(), 0);
         CHECK.due("the empty one, 1 alone", bench(1, ">0 0/", 2, ">0 0-1:-1 1/").readers(), 0);
-        CHECK.due("with other outputs, and with two", bench(1, ">0 0/1 0-1:1-0", 2, ">0 >1 0/ 1/2 0-1:3-1 1-1:-0").readers(), 1);
-        CHECK.due("all of one letter, all but one", bench(1, ">0 0/ 0-1:-0", 3, ">0 0/ 0-1:-1 1/ 1-1:-2 2-1:-2").readers(), 0);
+        CHECK.due("with other outputs, and with two", bench(1, ">0 0/1 0-1:1-0", 2,
+                ">0 >1 0/ 1/2 0-1:3-1 1-1:-0").readers(), 1);
+        CHECK.due("all of one letter, all but one", bench(1, ">0 0/ 0-1:-0", 3,
+                ">0 0/ 0-1:-1 1/ 1-1:-2 2-1:-2").readers(), 0);
     }
 
     private static void same() {
@@ -399,7 +405,8 @@ final class TermsTest {
         CHECK.due("the same, otherwise made", bench(1, ">0 0/ 0-1:12-0", 2, ">0 0/ 1/2 0-1:1-1 1-1:21-1").same(), 1);
         CHECK.due("other END", bench(1, ">0 0/ 0-1:12-0", 2, ">0 0/ 1/3 0-1:1-1 1-1:21-1").same(), 0);
         CHECK.due("longer END", bench(1, ">0 0/ 0-1:12-0", 2, ">0 0/ 1/22 0-1:1-1 1-1:21-1").same(), 0);
-        CHECK.due("neither is FUNCTIONAL, both alike", bench(1, ">0 0/ 0-1:1-0 0-1:2-0", 1, ">0 0/ 0-1:1-0 0-1:2-0").same(), NONE);
+        CHECK.due("neither is FUNCTIONAL, both alike", bench(1, ">0 0/ 0-1:1-0 0-1:2-0", 1,
+                ">0 0/ 0-1:1-0 0-1:2-0").same(), NONE);
     }
 
     private static void witnessIsTheLeast() {
@@ -407,12 +414,14 @@ final class TermsTest {
         dueFunctional("the empty one", bench(2, ">0 >1 0/3 1/ 0-1:-0"), ": , 3");
         dueFunctional("the shorter one", bench(3, ">0 0-1:-1 1-1:1-2 1-1:2-2 0-3:4-2 0-3:5-2 2/"), "3: 4, 5");
         dueFunctional("the lesser one", bench(4, ">0 0-1:-1 1-3:1-2 1-3:2-2 0-2:-3 3-1:4-2 3-1:5-2 2/"), "13: 1, 2");
-        dueFunctional("the lesser one, told last", bench(4, ">0 0-2:-3 3-1:4-2 3-1:5-2 0-1:-1 1-3:1-2 1-3:2-2 2/"), "13: 1, 2");
+        dueFunctional("the lesser one, told last", bench(4, ">0 0-2:-3 3-1:4-2 3-1:5-2 0-1:-1 1-3:1-2 1-3:2-2 2/"),
+                "13: 1, 2");
         String both = ">0 0-1:-1 0-2:-2 1-3:-3 2-1:-3 3/";
         dueSame("written 13, read 21", bench(4, both, 4, ">0 0-1:-1 0-2:-2 1-3:7-3 3/"), "13: , 7");
         dueSame("read 13, written 21", bench(4, both, 4, ">0 0-1:-1 0-2:-2 2-1:7-3 3/"), "13: , none");
         dueSame("written 3, read 11", bench(3, ">0 0-3:1-2 0-1:-1 1-1:-2 2/", 3, ">0 0-3:2-2 0-1:-1 2/"), "3: 1, 2");
-        dueSame("read 3, written 11", bench(3, ">0 0-3:1-2 0-1:-1 1-1:1-2 2/", 3, ">0 0-1:-1 1-1:2-2 2/"), "3: 1, none");
+        dueSame("read 3, written 11", bench(3, ">0 0-3:1-2 0-1:-1 1-1:1-2 2/", 3, ">0 0-1:-1 1-1:2-2 2/"),
+                "3: 1, none");
         dueSame("the empty one", bench(1, ">0 0/1 0-1:-0", 1, ">0 0/2"), ": 1, 2");
     }
 

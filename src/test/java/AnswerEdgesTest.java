@@ -422,6 +422,8 @@ final class AnswerEdgesTest {
         CHECK.due("writes() " + call, x.writes(0, 1, 0), is ? 5 : WITHOUT);
         CHECK.due("writes() of the END " + call, x.writes(0, 0, 0), is ? NONE : WITHOUT);
         CHECK.due("the BEGIN WORD " + call, x.writes(NONE, 0, 0), is ? NONE : WITHOUT);
+        CHECK.due("goes() of a second STATE " + call, x.goes(1, 1), NONE);
+        CHECK.due("writes() of a second STATE " + call, x.writes(1, 0, 0), WITHOUT);
         CHECK.due("act() " + call, x.act(1), is ? 1 : NONE);
     }
 

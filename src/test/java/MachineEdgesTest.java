@@ -21,6 +21,7 @@ final class MachineEdgesTest {
         promise5Refused();
         promise5Thirty();
         promise6();
+        promise6EachPart();
         promise6Refused();
         promise7Latest();
         promise7BeginWord();
@@ -245,6 +246,22 @@ final class MachineEdgesTest {
             CHECK.due("the other one stays", View.outputs(x, 1 - t, 1), "<75>");
             CHECK.due("copy() back", x.copy(1 - t), true);
             CHECK.due("as it is", View.outputs(x, 1 - t, 1), "<76>");
+        }
+    }
+
+    private static void promise6EachPart() {
+        CHECK.sentence("Machine t becomes what the other one is");
+        TransducerBench x = new TransducerBench();
+        Make.machine(x, 0, 6, ">2 >4 0/7 5/8 3-3:9-5 2-2:12-3 4-1:-0 2-1:3-5 4-2:-4");
+        Make.machine(x, 1, 6, ">1 >3 >5 2/1 4/ 1-1:5-2 3-2:56-4 5-3:-0 1-2:-1 0-1:4-3 0-3:4-3 0-3:5-3");
+        CHECK.due("copy()", x.copy(1), true);
+        CHECK.due("copy() again", x.copy(1), true);
+        CHECK.due("STATES, ARCS, USEFUL ones", x.size(1, 0) * 100 + x.size(1, 1) * 10 + x.size(1, 2), 655);
+        int[] words = {0, 1, 2, 3, 11, 12, 13, 21, 22, 23, 31, 221};
+        String[] due = {"", "<7> <38>", "", "", "", "", "", "<7>", "", "<1298>", "", "<7>"};
+        for (int i = 0; i < words.length; i++) {
+            CHECK.due("outputs of " + words[i], View.outputs(x, 1, words[i]), due[i]);
+            CHECK.due("outputs of the other one", View.outputs(x, 0, words[i]), due[i]);
         }
     }
 

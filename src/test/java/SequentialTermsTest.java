@@ -24,6 +24,7 @@ final class SequentialTermsTest {
         leadingToNoEnd();
         orderOfStates();
         noWord();
+        oneBehindTheOther();
         CHECK.finish("SequentialTermsTest");
     }
 
@@ -261,6 +262,31 @@ final class SequentialTermsTest {
                 "5/1 3/2 1/3 4/4 0/4 2/4 4-1:7-4 0-2:7-0 2-3:7-2 1-3:-2 1-1:-0 3-1:-4"
                 + " 5-2:-1 5-1:-3 >5",
                 " 0/1 0-1:-1 0-2:-2 1/2 1-1:-3 2/3 2-1:-4 2-3:-5 3/4 3-1:7-3 4/4 4-2:7-4 5/4 5-3:7-5");
+    }
+
+    /** What is told of a machine is the same whatever was asked ahead of it. */
+    private static void oneBehindTheOther() {
+        CHECK.sentence("Then SETS are made");
+        String[] machines = {twoWays("12", "1", "", "2"), ">0 0/ 0-1:1-1 0-3:5-3 1/4 3/ 3-1:6-0", ">1 >2 1/5 2/5 1-1:-2",
+            ">0 0-1:12-1 1-2:34-2 2/56", ">0 >1 >2 >3 0/ 1/ 2/ 3/", ">0 3/ 1-1:-3 2-2:-3 0-1:123-1 0-1:12-2 1-2:7-0", "",
+            ">0 >1 0/ 0-1:1-0 1-1:-1 1-2:-0", ">3 3/ 3-2:-1 1-2:-2 2-2:-3", ">0 0-1:1-1 0-1:-2 1/222 2-2:3-3 3/",
+            ">0 >2 0/ 0-1:1-1 1-1:21-0 2-1:12-3 3-1:1-2 2-2:-0"};
+        TransducerBench again = due("other WORDS by 3", 4, ">0 3/ 0-1:-1 0-2:-2 1-1:-3 1-3:5-3 2-1:-3 2-3:6-3", 1, "3 4 4 4 6");
+        Make.machine(again, 0, 4, ">0 3/ 0-1:-1 0-2:-2 1-1:-3 2-1:-3");
+        CHECK.due("sequential() of no WORDS by 3", again.sequential(0), 1);
+        CHECK.due("they are one", View.least(again), " 0-1:-1 0-2:-1 1-1:-2 2/");
+        for (int step = 1; step <= 4; step++) {
+            TransducerBench x = new TransducerBench();
+            for (int i = 0; i < machines.length; i++) {
+                String machine = machines[(i * step + 3) % machines.length];
+                TransducerBench alone = new TransducerBench();
+                Make.machine(alone, 0, 4, machine);
+                Make.machine(x, i % 2, 4, machine);
+                CHECK.due("sequential() of one more", x.sequential(i % 2), alone.sequential(0));
+                CHECK.due("told()", View.told(x), View.told(alone));
+                CHECK.due("the LEAST machine", View.least(x), View.least(alone));
+            }
+        }
     }
 
     private static void noWord() {

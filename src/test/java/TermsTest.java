@@ -29,6 +29,7 @@ final class TermsTest {
         same();
         witnessIsTheLeast();
         witnessOfFunctional();
+        witnessAfterWitness();
         witnessOfSame();
         witnessOfReaders();
         CHECK.finish("TermsTest");
@@ -378,6 +379,7 @@ final class TermsTest {
         CHECK.due("two ARCS", bench(1, ">0 0/ 0-1:1-0 0-1:-0").functional(0), 0);
         CHECK.due("two ARCS to no END", bench(2, ">0 0/ 0-1:1-1 0-1:-1").functional(0), 1);
         CHECK.due("two ARCS from no BEGINNING", bench(2, ">0 0/ 1-1:1-0 1-1:-0").functional(0), 1);
+        CHECK.due("two ARCS from 0, no BEGINNING", bench(2, ">1 1/ 0-1:1-1 0-1:-1").functional(0), 1);
         CHECK.due("two far behind", bench(6,
                 ">0 0-1:1-0 0-2:-1 1-2:-2 2-2:-3 3-2:-4 4-3:2-5 4-3:3-5 5/").functional(0), 0);
         CHECK.due("unlike on the way, alike at the END", bench(3,
@@ -447,7 +449,26 @@ final class TermsTest {
         dueFunctional("of four, the least ones last", bench(1, ">0 0/ 0-1:111-0 0-1:21-0 0-1:11-0 0-1:-0"), "1: , 11");
         dueFunctional("each once", bench(3, ">0 >1 >2 0/2 1/2 2/1"), ": 1, 2");
         dueFunctional("each once, the least one twice", bench(3, ">0 >1 >2 0/1 1/2 2/1"), ": 1, 2");
+        dueFunctional("with what is behind them", bench(3, ">0 0-1:1-1 0-1:2-1 1-2:34-2 2/56"), "12: 13456, 23456");
+        dueFunctional("not of a WORD ahead of it", bench(3, ">0 0/ 0-1:-1 1-2:3-2 1-2:2-2 2/"), "12: 2, 3");
+        dueFunctional("not of two ahead of it", bench(4, ">0 0-1:-1 1/ 1-1:-2 2/ 2-1:4-3 2-1:5-3 3/"), "111: 4, 5");
         dueFunctional("by STATES with other outputs", bench(3, ">0 0-1:1-1 0-1:3-1 0-1:-2 1/ 2/2"), "1: 1, 2");
+    }
+
+    private static void witnessAfterWitness() {
+        CHECK.sentence("The WITNESS of an answer 0");
+        String[][] machines = {{">0 >1 >2 >3 >4 >5 0/ 1/1 2/2 3/3 4/4 5/5", ": , 1"},
+            {">0 0-1:1-1 0-1:2-1 1/", "1: 1, 2"}, {">0 0-1:555-2 0-1:666-2 1-1:-2 2/", "1: 555, 666"},
+            {">5 5-1:7-4 5-1:8-4 4/9", "1: 79, 89"}, {">4 4-2:78-3 4-2:88-3 4-2:99-3 3/9", "2: 789, 889"},
+            {">3 3-2:77-2 2-3:-1 1-1:5-0 1-1:6-0 0/", "231: 775, 776"}, {">2 2-1:9-0 2-1:99-5 0/99 5/99", "1: 999, 9999"},
+            {">0 0-3:-5 5-3:-0 0/ 5/ 0-1:-4 4-1:3-3 4-1:2-3 3/", "11: 2, 3"}};
+        TransducerBench x = new TransducerBench();
+        for (int i = 0; i < 2 * machines.length; i++) {
+            String[] machine = machines[i < machines.length ? i : 2 * machines.length - 1 - i];
+            Make.machine(x, i % 2, 6, machine[0]);
+            CHECK.due("functional() of one more", x.functional(i % 2), 0);
+            CHECK.due("it shows", View.shown(x), machine[1]);
+        }
     }
 
     private static void witnessOfSame() {

@@ -162,6 +162,10 @@ final class AnswerEdgesTest {
         CHECK.due("one that would be 0", x.sequential(0), WITHOUT);
         CHECK.due("act() goes on still", View.act(x, 1), "43");
         CHECK.due("functional() goes on", x.functional(0), 1);
+        for (int asked = 30; asked < 300; asked++) {
+            CHECK.due("the " + asked + "th", x.sequential(asked % 2), WITHOUT);
+        }
+        CHECK.due("the LEAST machine stays to the end", View.least(x), " 0/3 0-1:4-0");
         for (int t = -1; t <= 2; t++) {
             int asked = t;
             EDGES.nothingHappens("the 25th, of machine " + t, AnswerEdgesTest::makeAsked24Times, y -> y.sequential(asked),

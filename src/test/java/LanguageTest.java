@@ -15,14 +15,18 @@ final class LanguageTest {
             "int size(int,int)", "int useful(int,int)", "int apply(int,int)", "int output(int,int)", "int functional(int)",
             "int readers()", "int same()", "int sequential(int)", "int witness(int)", "int wrote(int,int)", "int told(int)",
             "int goes(int,int)", "int writes(int,int,int)", "int act(int)", "int acted(int)");
-    private static final String[] RULED_OUT = {"throw", "throws", "try", "catch", "synchronized", "assert", "instanceof",
-        "Object", "Random", "System.nano", "System.current", "System.out", "Exact(", "->", "::", "\"", "protected",
-        "public class", "public static class", "double", "float"};
+    private static final String[] RULED_OUT = {"throw", "throws", "try", "catch", "synchronized", "assert", "Random",
+        "nanoTime", "currentTimeMillis", "System.out", "System.in", "getenv", "Thread", "Exact(", "::", "protected"};
+    private static final Set<String> IMPORTS = Set.of("import java.util.ArrayList;", "import java.util.Arrays;",
+            "import java.util.Iterator;", "import java.util.List;");
+    private static final int MOST_CLASSES = 14;
+    private static final int MOST_FIELDS = 24;
+    private static final int MOST_PARAMETERS = 7;
     private static final Check CHECK = new Check();
 
     public static void main(String[] args) throws IOException {
         checkFace();
-        checkNestedClasses();
+        checkClasses();
         checkText(Files.readString(Path.of(SOURCE)));
         CHECK.finish("LanguageTest");
     }
@@ -52,26 +56,36 @@ final class LanguageTest {
         CHECK.due("final", Modifier.isFinal(TransducerBench.class.getModifiers()), true);
     }
 
-    private static void checkNestedClasses() {
+    private static void checkClasses() {
+        Class<?>[] nested = TransducerBench.class.getDeclaredClasses();
+        CHECK.due("some twelve classes", nested.length + 1 <= MOST_CLASSES, true);
+        checkMembers(TransducerBench.class);
+        for (Class<?> inside : nested) {
+            int modifiers = inside.getModifiers();
+            CHECK.due("static " + inside, Modifier.isStatic(modifiers), true);
+            CHECK.due("not to be seen " + inside, Modifier.isPublic(modifiers) || Modifier.isProtected(modifiers), false);
+            checkMembers(inside);
+        }
+    }
+
+    private static void checkMembers(Class<?> owner) {
         Set<String> names = new TreeSet<>();
         for (String signature : FACE) {
             names.add(signature.substring(signature.indexOf(' ') + 1, signature.indexOf('(')));
         }
-        Class<?>[] nested = TransducerBench.class.getDeclaredClasses();
-        CHECK.due("at most twelve classes", nested.length <= 11, true);
-        for (Class<?> inside : nested) {
-            CHECK.due("static " + inside, Modifier.isStatic(inside.getModifiers()), true);
-            CHECK.due("private " + inside, Modifier.isPrivate(inside.getModifiers()), true);
-            for (Method method : inside.getDeclaredMethods()) {
-                CHECK.due("a name of its own: " + method, names.contains(method.getName()), false);
-                CHECK.due("seven parameters: " + method, method.getParameterCount() <= 7, true);
-            }
-            int fields = 0;
-            for (Field field : inside.getDeclaredFields()) {
-                fields += Modifier.isStatic(field.getModifiers()) ? 0 : 1;
-            }
-            CHECK.due("twenty fields: " + inside, fields <= 20, true);
+        for (Method method : owner.getDeclaredMethods()) {
+            boolean hidden = Modifier.isPrivate(method.getModifiers());
+            CHECK.due("a name of its own: " + method, hidden && names.contains(method.getName()), false);
+            CHECK.due("no lambda: " + method, method.getName().startsWith("lambda$"), false);
+            CHECK.due("seven parameters: " + method, method.getParameterCount() <= MOST_PARAMETERS, true);
         }
+        int fields = 0;
+        for (Field field : owner.getDeclaredFields()) {
+            boolean shared = Modifier.isStatic(field.getModifiers());
+            CHECK.due("final " + field, !shared || Modifier.isFinal(field.getModifiers()), true);
+            fields += shared ? 0 : 1;
+        }
+        CHECK.due("some twenty fields: " + owner, fields <= MOST_FIELDS, true);
     }
 
     private static void checkText(String source) {
@@ -83,7 +97,7 @@ final class LanguageTest {
         }
         for (String line : code.split("\n")) {
             if (line.startsWith("import ")) {
-                CHECK.due("import", line, "import java.util.Arrays;");
+                CHECK.due(line, IMPORTS.contains(line), true);
             }
         }
     }

@@ -186,6 +186,7 @@ final class SequentialTermsTest {
         due("without one", 1, ">0", 1, "0 0 0 0 0");
         due("one that is not USEFUL is not in it", 2, ">0 0/ 0-1:-0 >1", 1, "1 1 1 1 1");
         due("all that are USEFUL are in it", 2, ">0 0/ 0-1:-0 >1 1-2:-0", 1, "1 4 2 2 3");
+        due("the last STATE alone", 6, ">5 5/ 5-1:12-5", 1, "1 1 1 1 1");
         due("with the empty WORD", 3, ">0 0/5 >1 1/5 >2 2/5", 1, "1 9 1 1 0");
     }
 
@@ -208,6 +209,9 @@ final class SequentialTermsTest {
                 " 0-1:-1 0-2:-2 1-1:12-3 1-2:22-3 2-1:2-3 2-2:3-3 3/");
         dueLeast("of three", 5, ">0 4/ 0-1:12-1 0-1:13-2 0-1:1-3 1-1:-4 2-2:-4 3-3:-4",
                 "1 0-1:-1 1-1:2-2 1-2:3-2 1-3:-2 2/");
+        dueLeast("of the last STATE alone", 6, ">5 5/ 5-1:12-5", " 0/ 0-1:12-0");
+        dueLeast("of the last two STATES", 6, ">0 1/ 5-1:-1 4-2:-1 0-1:12-5 0-1:13-4 0-2:3-5",
+                " 0-1:1-1 0-2:3-2 1-1:2-3 1-2:3-3 2-1:-3 3/");
         dueLeast("of one", 3, ">0 2/ 0-1:123-1 0-2:4-1 1-1:-2", " 0-1:123-1 0-2:4-1 1-1:-2 2/");
     }
 
